@@ -972,16 +972,19 @@ public final class ReplicaFiles {
 
         /** Makes room for so much more weight, by what has a priority below the one told; if it can't, nothing goes. */
         private boolean makeRoom(int more, int below) {
+            if (more <= 0) {
+                return true;
+            }
             int free = CACHE_WEIGHT;
             int freeAtMost = CACHE_WEIGHT;
             for (int o = 0; o <= catalog.made; o++) {
                 free -= weightOf(o);
                 freeAtMost -= mayGo(o, below) ? 0 : weightOf(o);
             }
-            if (more > 0 && freeAtMost < more) {
+            if (freeAtMost < more) {
                 return false;
             }
-            for (int gone = 0; gone < OBJECTS && more > 0 && free < more; gone++) {
+            for (int gone = 0; gone < OBJECTS && free < more; gone++) {
                 int next = nextToGo(below);
                 if (next == NO) {
                     return false;
@@ -1108,8 +1111,8 @@ public final class ReplicaFiles {
             log.takeOut(WRITE, object);
             tree.forgetEntry(object);
             drop(object);
-            if (log.length == 0) {
-                Arrays.fill(dirty, false);
+            for (int o = 0; o < OBJECTS && log.length == 0; o++) {
+                dirty[o] = false;
             }
         }
 
@@ -1492,8 +1495,9 @@ public final class ReplicaFiles {
 
         /** What is in a directory has greater numbers than it has, so one way up the numbers sees all that is inside. */
         private boolean canBeDropped(int object) {
-            Arrays.fill(inside, false);
-            inside[object] = true;
+            for (int o = 0; o < OBJECTS; o++) {
+                inside[o] = o == object;
+            }
             joinedState(object);
             if (!isKnownAtMost(object)) {
                 return false;
@@ -1629,7 +1633,11 @@ public final class ReplicaFiles {
             gatherCandidates(file);
             if (candidates.length == 1) {
                 giveOne(file);
-            } else if (candidates.length > 1 && !allHaveJustThese(file)) {
+                return;
+            }
+            boolean allHaveJustThese = allHold(file) && replicas.areAlike(group, file)
+                    && servers[replicas.leastOf(group)].versions[file].isLike(candidates);
+            if (candidates.length > 1 && !allHaveJustThese) {
                 giveSeveral(file);
             }
         }
@@ -1660,11 +1668,6 @@ public final class ReplicaFiles {
                     noteChange(1 << s, file);
                 }
             }
-        }
-
-        private boolean allHaveJustThese(int file) {
-            return allHold(file) && replicas.areAlike(group, file)
-                    && servers[replicas.leastOf(group)].versions[file].isLike(candidates);
         }
 
         private void giveSeveral(int file) {
