@@ -529,7 +529,11 @@ final class PlainModel {
             }
             tree.get(d).entries.computeIfAbsent(o, k -> new Entry(nameOf.get(k))).goneVec = vec.clone();
             Copy copy = tree.get(o);
-            if (copy == null || !atMost(copy.vec, vec) || !copy.versions.isEmpty()) {
+            if (copy == null) {
+                continue;
+            }
+            if (!atMost(copy.vec, vec) || !copy.versions.isEmpty()) {
+                saw(copy.versions.isEmpty() ? "kept as it was not known" : "kept for its versions");
                 continue;
             }
             boolean empty = true;

@@ -28,6 +28,7 @@ public final class Promises15To21Test extends Sentences {
         toldCame();
         toldWent();
         toldAlike();
+        toldAlikeWithoutACopy();
         toldAlikeOfThoseThatAreUp();
         toldAnother();
         noSuchServer();
@@ -490,6 +491,23 @@ public final class Promises15To21Test extends Sentences {
         due("versions at 0 alone", x.told(7), 0);
         x.meet(0);
         due("versions at both", x.told(7), 1);
+    }
+
+    private static void toldAlikeWithoutACopy() {
+        given("Promise 21: told", "whether the servers that are UP have all COPIES alike (7; 1, 0)", 2);
+        files(2);
+        near(0, 1);
+        x.write(0, 1, 9, 5);
+        nearAll(0);
+        due("both drop what they have, which is not alike", x.remove(0, 0, 1), 2);
+        due("both have none", x.told(7), 1);
+        near(0, 0);
+        x.make(0, 0, 0, false);
+        x.write(0, 2, 7, 3);
+        x.remove(0, 0, 2);
+        due("the entry is at 0 alone", x.told(7), 0);
+        due("root 2", x.meet(0), 2);
+        due("1 never had one, 0 has none any more", x.told(7), 1);
     }
 
     private static void toldAlikeOfThoseThatAreUp() {

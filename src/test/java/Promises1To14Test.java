@@ -54,6 +54,8 @@ public final class Promises1To14Test extends Sentences {
         repairTheLeastInConflict();
         repairThoseWithTheVector();
         repairWithALostPhase();
+        repairAnswersHowMany();
+        repairEndsPromises();
         end("Promises 1 to 14");
     }
 
@@ -852,5 +854,39 @@ public final class Promises1To14Test extends Sentences {
         vector(2, 1, NO, 3, 3, 2);
         due("told", x.told(4), 1);
         due("over then", x.lose(1), true);
+    }
+
+    private static void repairAnswersHowMany() {
+        for (int n = 2; n <= 4; n++) {
+            given("Promise 14: repair", "how many servers did it", n);
+            conflict();
+            due("all", x.repair(1, 1, 0), n);
+            given("Promise 14: repair", "how many servers did it", n);
+            conflict();
+            near(1, n - 1);
+            due("one", x.repair(1, 1, 0), 1);
+        }
+    }
+
+    private static void repairEndsPromises() {
+        given(REPAIR, "PROMISES for it end there.", 3);
+        x.make(3, 0, 0, false);
+        near(0, 0);
+        near(1, 1);
+        x.write(0, 1, 5, 0);
+        x.write(1, 1, 6, 0);
+        x.server(2, false);
+        x.meet(0);
+        x.server(2, true);
+        near(2, 2);
+        due("an old one, by 2", x.read(2, 1), 0);
+        nearAll(2);
+        due("repaired at 0 and 1", x.repair(3, 1, 0), 2);
+        for (int c = 0; c < 2; c++) {
+            due("none by 0 and 1", x.cached(c, 1, 2), 0);
+        }
+        due("2 did not do it", x.cached(2, 1, 2), 4);
+        due("so it is not good", x.cached(2, 1, 4), 0);
+        due("but looked for", x.read(2, 1), 5);
     }
 }

@@ -18,7 +18,8 @@ public final class RandomRunsTest {
             "lost write", "lost make", "handed in version", "handed in removal", "refused",
             "nothing to remove", "gone directory kept", "file there again", "directory there again",
             "kept for what is in it", "kept for what is gone in it", "dropped in a meeting", "dropped with its directory",
-            "conflict from a meeting", "repaired", "removed where it was not known"};
+            "conflict from a meeting", "repaired", "removed where it was not known", "kept as it was not known",
+            "kept for its versions", "lost version of seven"};
         for (String what : rare) {
             if (runs >= 3000 && !seen.containsKey(what)) {
                 wrong++;
@@ -45,6 +46,7 @@ public final class RandomRunsTest {
     private final int making;
     private final int mostMade;
     private final int meeting;
+    private final int excursions;
 
     private RandomRunsTest(int seed) {
         this.seed = seed;
@@ -54,8 +56,9 @@ public final class RandomRunsTest {
         m = new PlainModel(servers);
         trouble = 1 + random.nextInt(30);
         making = 1 + random.nextInt(20);
-        mostMade = new int[] {2, 5, 12, 48}[random.nextInt(4)];
-        meeting = 1 + random.nextInt(12);
+        mostMade = new int[] {1, 2, 5, 12, 48}[random.nextInt(5)];
+        meeting = random.nextInt(13);
+        excursions = random.nextInt(3) * 10;
     }
 
     private void run() {
@@ -117,6 +120,10 @@ public final class RandomRunsTest {
 
     private void step() {
         int c = below(below(2) == 0 ? 2 : 4);
+        if (below(100) < excursions) {
+            excursion(c);
+            return;
+        }
         int dice = below(60 + trouble + making + meeting);
         if (dice < trouble) {
             turn(c);
@@ -125,11 +132,43 @@ public final class RandomRunsTest {
             int name = below(4);
             boolean dir = below(3) == 0;
             due("make(" + c + ", " + d + ", " + name + ", " + dir + ")", x.make(c, d, name, dir), m.make(c, d, name, dir));
-        } else if (dice < trouble + meeting) {
+        } else if (dice < trouble + meeting || below(100) == 0) {
             int s = below(servers);
             due("meet(" + s + ")", x.meet(s), m.meet(s));
         } else {
             act(c, below(60));
+        }
+    }
+
+    /** A client gets something where it can, goes alone, does a few things, and hands in somewhere. */
+    private void excursion(int c) {
+        linkSome(c, 1 + below((1 << servers) - 1));
+        int file = someFile();
+        int directory = someDirectory();
+        due("find(" + c + ", " + directory + ", 0)", x.find(c, directory, 0), m.find(c, directory, 0));
+        due("read(" + c + ", " + file + ")", x.read(c, file), m.read(c, file));
+        linkSome(c, 0);
+        for (int i = 1 + below(3); i > 0; i--) {
+            int kind = below(6);
+            if (kind == 0) {
+                removal(c);
+            } else if (kind == 1) {
+                due("remove(" + c + ", " + directory + ", " + file + ")", x.remove(c, directory, file), m.remove(c, directory, file));
+            } else if (kind == 2 && m.told(0) < mostMade) {
+                due("make(" + c + ", " + directory + ", 1, false)", x.make(c, directory, 1, false), m.make(c, directory, 1, false));
+            } else {
+                int value = below(1000);
+                due("write(" + c + ", " + file + ", " + value + ", 1)", x.write(c, file, value, 1), m.write(c, file, value, 1));
+            }
+        }
+        linkSome(c, 1 + below((1 << servers) - 1));
+        due("handIn(" + c + ")", x.handIn(c), m.handIn(c));
+    }
+
+    private void linkSome(int c, int bits) {
+        for (int s = 0; s < servers; s++) {
+            boolean up = (bits >> s & 1) != 0;
+            due("link(" + s + ", " + (4 + c) + ", " + up + ")", x.link(s, 4 + c, up) ? 1 : 0, m.setLink(s, 4 + c, up) ? 1 : 0);
         }
     }
 

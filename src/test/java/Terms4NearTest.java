@@ -33,6 +33,7 @@ public final class Terms4NearTest extends Sentences {
         madeComesIntoTheCache();
         madeIsUsed();
         madeMakesRoom();
+        growsWithRoom();
         removedGoes();
         othersPromisesEnd();
         othersPromisesForWhatWasRemovedEnd();
@@ -457,6 +458,19 @@ public final class Terms4NearTest extends Sentences {
         x.make(0, 0, 5, true);
         due("2 more: one goes", x.told(6), went + 1);
         kept(0, 5, 0, 2, 3, 4, 5);
+    }
+
+    private static void growsWithRoom() {
+        given(HERE, "if it grows without ROOM, it goes.", 1);
+        files(6, 6, 6, 0);
+        readAll(0, 4, 1, 2, 3);
+        for (int f = 1; f <= 3; f++) {
+            x.priority(0, f, 9);
+        }
+        due("near servers nothing is dirty, so there is room", x.write(0, 4, 9, 6), 1);
+        kept(0, 4, 2, 3, 4);
+        due("as it was written", x.cached(0, 4, 1), 6);
+        due("good", x.cached(0, 4, 4), 1);
     }
 
     private static void removedGoes() {

@@ -27,8 +27,10 @@ public final class Terms5AloneTest extends Sentences {
         removeOfWhatWasMade();
         removeOfWhatWasMadeInAFullLog();
         nothingIsDirty();
+        nothingIsDirtyInTheRoot();
         someRecordIsLeft();
         removeTakesItsWriteOut();
+        othersKeepTheirVectors();
         removeInPlaceOfItsWriteInAFullLog();
         end("Terms 5, acts alone");
     }
@@ -194,7 +196,7 @@ public final class Terms5AloneTest extends Sentences {
     }
 
     private static void twelfthAndThirteenthMake() {
-        given(HERE, "A RECORD that would be the 13th: FULL", 1);
+        given(HERE, "are done in the CACHE, and are RECORDS of the LOG (12 at most)", 1);
         x.find(0, 0, 0);
         near(0);
         for (int o = 1; o <= 12; o++) {
@@ -377,6 +379,19 @@ public final class Terms5AloneTest extends Sentences {
         entries(0, 1);
     }
 
+    private static void nothingIsDirtyInTheRoot() {
+        given(HERE, "(the ENTRY goes; without any RECORD then nothing is DIRTY)", 1);
+        keepFilesAlone(1);
+        x.make(0, 0, 5, false);
+        due("dirty", x.cached(0, 0, 3), 1);
+        x.remove(0, 0, 2);
+        due("not dirty", x.cached(0, 0, 3), 0);
+        due("one is there", x.cached(0, 0, 0), 1);
+        nearAll(0);
+        due("it is got again", x.find(0, 0, 1), 1);
+        due("good", x.cached(0, 0, 4), 1);
+    }
+
     private static void someRecordIsLeft() {
         given(HERE, "(the ENTRY goes; without any RECORD then nothing is DIRTY)", 1);
         keepFilesAlone(1);
@@ -400,6 +415,30 @@ public final class Terms5AloneTest extends Sentences {
         entries(0, 0, -1, 2);
         values(1, NONE);
         due("none is lost", x.told(2), 0);
+        due("none is refused", x.told(3), 0);
+    }
+
+    private static void othersKeepTheirVectors() {
+        given(HERE, "REMOVE of another one takes its WRITE out.", 2);
+        x.make(0, 0, 1, false);
+        x.make(0, 0, 2, false);
+        x.make(0, 0, 3, false);
+        x.write(0, 2, 2, 0);
+        x.write(0, 3, 3, 0);
+        x.write(0, 3, 3, 0);
+        near(0);
+        x.write(0, 1, 10, 0);
+        x.write(0, 2, 20, 0);
+        x.remove(0, 0, 3);
+        x.remove(0, 0, 1);
+        records(0, 0, 2, NO, 2, 3, 0, 2, 1, 0);
+        nearAll(0);
+        x.handIn(0);
+        values(1, NONE, NONE);
+        values(2, 20, 20);
+        values(3, NONE, NONE);
+        vector(0, 2, NO, 2, 2);
+        due("no versions", x.copy(0, 2, 2), 0);
         due("none is refused", x.told(3), 0);
     }
 

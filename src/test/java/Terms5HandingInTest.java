@@ -24,6 +24,7 @@ public final class Terms5HandingInTest extends Sentences {
         makeNotWhereTheDirectoryIsNot();
         makeWithALostPhase();
         removeOfNoCopy();
+        removeOfOneNotKnown();
         removeWithoutTheDirectory();
         removeOfOneThatIsGoneThere();
         removeOfTheSameVector();
@@ -40,6 +41,7 @@ public final class Terms5HandingInTest extends Sentences {
         promisesEndForAMake();
         promisesEndForARemove();
         theLogIsEmpty();
+        whatComesBackIsNotDirty();
         end("Terms 5, handing in");
     }
 
@@ -398,6 +400,21 @@ public final class Terms5HandingInTest extends Sentences {
         vector(0, 0, NO, 2, 1);
     }
 
+    private static void removeOfOneNotKnown() {
+        given(HERE, "REMOVE: s has no COPY of the object or the DIRECTORY, or it is GONE there: nothing.", 2);
+        near(0, 1);
+        x.make(0, 0, 1, false);
+        near(0);
+        x.remove(0, 0, 1);
+        near(0, 0);
+        int acts = x.told(1);
+        due("one", x.handIn(0), 1);
+        due("no act", x.told(1), acts);
+        entries(0, 0);
+        vector(0, 0, NO);
+        due("there at 1", x.copy(1, 1, 0), 0);
+    }
+
     private static void removeWithoutTheDirectory() {
         given(HERE, "REMOVE: s has no COPY of the object or the DIRECTORY, or it is GONE there: nothing.", 2);
         x.make(0, 0, 1, true);
@@ -630,5 +647,28 @@ public final class Terms5HandingInTest extends Sentences {
         due("what is at the server", x.read(0, 1), 5);
         due("not what it wrote", x.read(0, 2), CONFLICT);
         due("what is not dirty stays", x.cached(0, 4, 3), 0);
+    }
+
+    private static void whatComesBackIsNotDirty() {
+        given(HERE, "Then the LOG is empty, and what is DIRTY goes.", 1);
+        for (int f = 1; f <= 4; f++) {
+            x.make(0, 0, f, false);
+        }
+        near(0);
+        for (int f = 1; f <= 3; f++) {
+            x.write(0, f, f, 6);
+        }
+        x.remove(0, 0, 4);
+        nearAll(0);
+        x.handIn(0);
+        kept(0, 4);
+        readAll(0, 1, 2, 3);
+        x.find(0, 0, 0);
+        for (int o = 0; o <= 3; o++) {
+            due("not dirty", x.cached(0, o, 3), 0);
+        }
+        x.make(0, 0, 5, true);
+        due("so 1 may go for it", isKept(0, 1), false);
+        due("it is kept", isKept(0, 5), true);
     }
 }

@@ -11,6 +11,7 @@ public final class Terms6MeetingTest extends Sentences {
         goneOfALesserVector();
         thereAgainForAGreaterVector();
         thereAgainForOneThatIsApart();
+        thereAgainForTheLeastServer();
         goneWithVersionsThatWereKnown();
         thereAgainWithVersions();
         directoryWithOneThere();
@@ -21,14 +22,20 @@ public final class Terms6MeetingTest extends Sentences {
         directoryInADirectoryIsDropped();
         thereAgainIsCounted();
         theVectorIsNoMore();
+        theVectorIsNoMoreAtAny();
+        entriesGoWithTheCopy();
         thereAgainEachOnItsOwn();
         directoriesThatAreTheSame();
         directoriesWithOtherEntries();
+        directoriesWithAnotherFirstEntry();
+        directoriesWithAnotherLastEntry();
+        directoriesGoneWithOtherVectors();
         directoriesWithOtherVectors();
         directoriesThatAreMissing();
         goneIfOneHasItSo();
         goneWithTheGreaterOfBoth();
         greaterOfAllDirectories();
+        greaterOfThoseOutsideTheGroup();
         candidatesByServers();
         candidatesOnce();
         withoutThoseThatAreAtMost();
@@ -41,7 +48,9 @@ public final class Terms6MeetingTest extends Sentences {
         severalAreJustSix();
         severalAreMoreThanSix();
         greaterOfAllVersions();
+        greaterOfThatFileAlone();
         promisesEndWhereItChanged();
+        promisesEndForAFile();
         promisesEndForDirectories();
         promisesEndForWhatIsDropped();
         end("Terms 6");
@@ -161,6 +170,23 @@ public final class Terms6MeetingTest extends Sentences {
         due("3, 1 is gone, 1, 2 is there", x.meet(0), 2 + 2 + 1);
         allAre(1, 7);
         vector(0, 1, NO, 1, 2);
+    }
+
+    private static void thereAgainForTheLeastServer() {
+        given(HERE, "GONE: if all COPIES and VERSIONS of it in the GROUP are AT MOST the VECTOR with which it is GONE", 3);
+        for (int writer = 0; writer < 3; writer++) {
+            files(3);
+            int f = x.told(0);
+            nearAll(0);
+            x.find(0, 0, 0);
+            x.read(0, f);
+            near(0, writer);
+            near(1, (writer + 1) % 3);
+            x.write(0, f, 50 + writer, 0);
+            x.remove(1, 0, f);
+            due("root 3, root 3 again, file 2", x.meet(0), 3 + 3 + 2);
+            allAre(f, 50 + writer);
+        }
     }
 
     private static void goneWithVersionsThatWereKnown() {
@@ -350,6 +376,49 @@ public final class Terms6MeetingTest extends Sentences {
         allAre(1, 5);
     }
 
+    private static void theVectorIsNoMoreAtAny() {
+        given(HERE, "(the VECTOR with which it was GONE is no more)", 3);
+        x.make(0, 0, 1, false);
+        x.link(0, 2, false);
+        x.link(1, 2, false);
+        near(0, 0, 2);
+        x.write(0, 1, 5, 0);
+        near(0, 0);
+        x.remove(0, 0, 1);
+        near(1, 1);
+        x.write(1, 1, 6, 0);
+        x.meet(0);
+        near(1, 0);
+        due("removed at 0 by one that knows 0, 1, 0; 1 has it there again", x.remove(1, 0, 1), 1);
+        x.link(0, 2, true);
+        due("2 has 1, 0, 1: root 3, there again 3, versions 3", x.meet(0), 3 + 3 + 3);
+        versions(0, 1, 6, 5);
+    }
+
+    private static void entriesGoWithTheCopy() {
+        given(HERE, "all these COPIES, also of what is in it, are dropped.", 3);
+        x.make(0, 0, 1, true);
+        x.make(0, 1, 2, false);
+        near(0, 0, 2);
+        x.write(0, 2, 5, 0);
+        near(0, 0);
+        x.remove(0, 1, 2);
+        x.remove(0, 0, 1);
+        due("dropped at 0, with the entry that is gone with 1, 0, 1", x.copy(0, 1, 3), NONE);
+        near(1, 1);
+        x.make(1, 1, 3, false);
+        x.link(0, 2, false);
+        x.link(1, 2, false);
+        x.meet(0);
+        entries(0, 1, 2, 3);
+        x.remove(1, 1, 2);
+        x.link(0, 2, true);
+        x.link(1, 2, true);
+        x.meet(0);
+        entries(2, 1, 2, 3);
+        allAre(2, 5);
+    }
+
     private static void thereAgainEachOnItsOwn() {
         given(HERE, "Else it is THERE again, in all of the GROUP", 2);
         files(0, 0, 0);
@@ -393,6 +462,63 @@ public final class Terms6MeetingTest extends Sentences {
             entries(s, 0, 1, 2, 3);
             vector(s, 0, NO, 3, 3);
         }
+    }
+
+    private static void directoriesWithAnotherFirstEntry() {
+        given(HERE, "A DIRECTORY: if not all of the GROUP have COPIES with the same ENTRIES and VECTOR", 2);
+        x.find(2, 0, 0);
+        near(2);
+        near(0, 0);
+        x.make(0, 0, 7, false);
+        x.make(2, 0, 9, false);
+        nearAll(2);
+        x.handIn(2);
+        vector(0, 0, NO, 2, 1);
+        vector(1, 0, NO, 2, 1);
+        entries(0, 0, 1, 2);
+        entries(1, 0, 2);
+        due("root 2, file 1", x.meet(0), 2 + 1);
+        entries(1, 0, 1, 2);
+        vector(1, 0, NO, 3, 2);
+    }
+
+    private static void directoriesWithAnotherLastEntry() {
+        given(HERE, "A DIRECTORY: if not all of the GROUP have COPIES with the same ENTRIES and VECTOR", 2);
+        x.find(2, 0, 0);
+        near(2);
+        near(0, 1);
+        x.make(2, 0, 9, false);
+        x.make(0, 0, 7, false);
+        nearAll(2);
+        x.handIn(2);
+        vector(0, 0, NO, 1, 2);
+        vector(1, 0, NO, 1, 2);
+        entries(0, 0, 1);
+        entries(1, 0, 1, 2);
+        due("root 2, file 1", x.meet(0), 2 + 1);
+        entries(0, 0, 1, 2);
+    }
+
+    private static void directoriesGoneWithOtherVectors() {
+        given(HERE, "A DIRECTORY: if not all of the GROUP have COPIES with the same ENTRIES and VECTOR", 2);
+        x.make(2, 0, 7, false);
+        near(2);
+        eachAtItsServer();
+        x.write(0, 1, 5, 0);
+        x.write(1, 1, 6, 0);
+        x.remove(0, 0, 1);
+        x.remove(1, 0, 1);
+        x.make(2, 0, 9, false);
+        nearAll(2);
+        x.handIn(2);
+        for (int s = 0; s < 2; s++) {
+            vector(s, 0, NO, 3, 3);
+            entries(s, 0, -1, 2);
+        }
+        due("what is gone with another vector is another entry", x.told(7), 0);
+        due("root 2", x.meet(0), 2);
+        vector(1, 0, NO, 4, 4);
+        due("alike", x.told(7), 1);
     }
 
     private static void directoriesWithOtherVectors() {
@@ -469,6 +595,20 @@ public final class Terms6MeetingTest extends Sentences {
         vector(3, 0, NO, 4, 3, 2, 2);
     }
 
+    private static void greaterOfThoseOutsideTheGroup() {
+        given(HERE, "and as VECTOR the greater of each count of all COPIES, the GROUP being COUNTED.", 3);
+        near(0, 0, 2);
+        x.make(0, 0, 1, false);
+        x.make(0, 0, 1, true);
+        x.server(2, false);
+        vector(1, 0, NO);
+        x.meet(1);
+        vector(0, 0, NO, 3, 1, 2);
+        vector(1, 0, NO, 3, 1, 2);
+        vector(0, 2, NO, 1, 1, 0);
+        vector(1, 2, NO, 1, 1, 0);
+    }
+
     private static void candidatesByServers() {
         given(HERE, "A FILE: CANDIDATES are the COPIES without VERSIONS, and the VERSIONS of others, by servers", 3);
         x.make(3, 0, 1, false);
@@ -519,13 +659,20 @@ public final class Terms6MeetingTest extends Sentences {
         given(HERE, "without those whose VECTOR is AT MOST that of another CANDIDATE with another VECTOR.", 4);
         files(0);
         eachAtItsServer();
-        x.write(0, 1, 10, 0);
-        x.write(1, 1, 20, 0);
-        near(2, 1, 2);
-        due("written over by one that knew 20", x.write(2, 1, 30, 0), 1);
-        due("0, 1, 2 and 3", x.meet(3), 4);
+        x.write(2, 1, 10, 1);
+        x.write(1, 1, 20, 2);
+        x.write(3, 1, 30, 3);
+        near(0, 0, 1);
+        due("written over by one that knew 20", x.write(0, 1, 21, 4), 1);
+        due("by one server after the other: 1, 21, 10, 30; all know what 0 has", x.meet(3), 4);
         for (int s = 0; s < 4; s++) {
-            versions(s, 1, 10, 30);
+            versions(s, 1, 21, 10, 30);
+            due("size", x.version(s, 1, 0, 1), 4);
+            due("size", x.version(s, 1, 1, 1), 1);
+            due("size", x.version(s, 1, 2, 1), 3);
+            vector(s, 1, 0, 1, 3, 1, 1);
+            vector(s, 1, 1, 1, 1, 2, 1);
+            vector(s, 1, 2, 1, 1, 1, 2);
         }
         due("none is lost", x.told(2), 0);
     }
@@ -692,6 +839,22 @@ public final class Terms6MeetingTest extends Sentences {
         vector(2, 1, NO);
     }
 
+    private static void greaterOfThatFileAlone() {
+        given(HERE, "and as VECTOR the greater of each count of all COPIES and VERSIONS, the GROUP being COUNTED.", 3);
+        x.make(0, 0, 1, false);
+        near(0, 0, 2);
+        x.make(0, 0, 1, false);
+        near(0, 0);
+        near(1, 1);
+        x.write(0, 1, 5, 0);
+        x.write(1, 1, 6, 0);
+        x.server(2, false);
+        due("root 2, versions 2, the other file 1", x.meet(0), 2 + 2 + 1);
+        vector(1, 0, NO, 3, 2, 2);
+        vector(0, 1, NO, 2, 2, 0);
+        vector(1, 1, NO, 2, 2, 0);
+    }
+
     private static void promisesEndWhereItChanged() {
         given(HERE, "PROMISES by a server for what was changed there end.", 3);
         files(0, 0);
@@ -715,6 +878,18 @@ public final class Terms6MeetingTest extends Sentences {
         due("2 has the old one", x.cached(3, 1, 2), 4);
         x.meet(0);
         due("versions at all", x.cached(3, 1, 2), 0);
+    }
+
+    private static void promisesEndForAFile() {
+        given(HERE, "PROMISES by a server for what was changed there end.", 4);
+        files(0);
+        x.read(3, 1);
+        near(0, 0);
+        x.write(0, 1, 5, 0);
+        x.link(0, 2, false);
+        due("all but 0", x.cached(3, 1, 2), 14);
+        due("1 and 3", x.meet(0), 2);
+        due("2 did not change", x.cached(3, 1, 2), 4);
     }
 
     private static void promisesEndForDirectories() {
