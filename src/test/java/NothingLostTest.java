@@ -15,6 +15,8 @@ import java.util.TreeMap;
  * there, or written over by one that knew it (a client knows what it wrote itself before), or stands as a version of
  * a conflict, or is told as lost." Every write has a value of its own; the test keeps by itself, not by comparing
  * vectors, which writes each state of a file knows, and looks at every state that a call takes away from a server.
+ * The sentence does not name removals; here a write that some removal knew may go wherever it still stands (as marks
+ * never go back, an object that is there again can have a vector above that of a write that only its removal knew).
  */
 public final class NothingLostTest {
     private static final int CALLS = 512;

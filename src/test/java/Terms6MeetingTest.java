@@ -39,6 +39,7 @@ public final class Terms6MeetingTest extends Sentences {
         candidatesByServers();
         candidatesOnce();
         withoutThoseThatAreAtMost();
+        withoutOneThatWasRemovedElsewhere();
         oneForAll();
         oneIsNoChangeWhereItIsSo();
         oneOutOfVersions();
@@ -674,6 +675,36 @@ public final class Terms6MeetingTest extends Sentences {
             vector(s, 1, 1, 1, 1, 2, 1);
             vector(s, 1, 2, 1, 1, 1, 2);
         }
+        due("none is lost", x.told(2), 0);
+    }
+
+    /**
+     * Marks never go back, so server 2 brings into the vector of 33 a count above that of 11, which the writer of 33
+     * never saw: 11 was removed at 2, by one that knew it, and goes from 0, too. The words ask for that.
+     */
+    private static void withoutOneThatWasRemovedElsewhere() {
+        given(HERE, "without those whose VECTOR is AT MOST that of another CANDIDATE with another VECTOR.", 3);
+        x.make(3, 0, 0, false);
+        eachAtItsServer();
+        x.link(0, 1, false);
+        x.link(1, 2, false);
+        x.write(2, 1, 11, 0);
+        due("0 and 2", x.meet(2), 1);
+        due("removed by one that knew 11", x.remove(2, 0, 1), 1);
+        x.write(1, 1, 22, 0);
+        x.link(0, 2, false);
+        x.link(1, 2, true);
+        due("the roots join, it is there again, 2 has a copy again", x.meet(1), 2 + 2 + 1);
+        near(1, 1, 2);
+        due("at 1 and 2", x.write(1, 1, 33, 0), 2);
+        vector(0, 1, NO, 0, 0, 1);
+        vector(1, 1, NO, 0, 2, 2);
+        x.link(0, 1, true);
+        x.link(0, 2, true);
+        due("the roots join, and 0 takes 33", x.meet(0), 3 + 1);
+        allAre(1, 33);
+        versions(0, 1);
+        vector(0, 1, NO, 0, 2, 2);
         due("none is lost", x.told(2), 0);
     }
 
